@@ -395,6 +395,10 @@ public final class TwoWires {
         return place >= 0 && place < saved.length ? saved[place] : null;
     }
 
+    private static void copyNumbers(int[] from, int[] to) {
+        System.arraycopy(from, 0, to, 0, Math.min(from.length, to.length));
+    }
+
     /** A write or a read that stands in the queue of a caller. */
     private static final class Message {
         private boolean isRead = false;
@@ -460,9 +464,7 @@ public final class TwoWires {
                 }
             }
             size = other.size;
-            for (int i = 0; i < ended.length && i < other.ended.length; i++) {
-                ended[i] = other.ended[i];
-            }
+            copyNumbers(other.ended, ended);
             losses = other.losses;
             received = other.received;
             lastByte = other.lastByte;
@@ -552,9 +554,7 @@ public final class TwoWires {
             hold = other.hold;
             on = other.on;
             heldSlots = other.heldSlots;
-            for (int i = 0; i < bytes.length && i < other.bytes.length; i++) {
-                bytes[i] = other.bytes[i];
-            }
+            copyNumbers(other.bytes, bytes);
             size = other.size;
             pointer = other.pointer;
         }
@@ -613,9 +613,9 @@ public final class TwoWires {
             passed = other.passed;
             notIdle = other.notIdle;
             held = other.held;
-            System.arraycopy(other.levels, 0, levels, 0, KEPT_SLOTS);
-            System.arraycopy(other.contenders, 0, contenders, 0, KEPT_SLOTS);
-            System.arraycopy(other.kinds, 0, kinds, 0, KEPT_SLOTS);
+            copyNumbers(other.levels, levels);
+            copyNumbers(other.contenders, contenders);
+            copyNumbers(other.kinds, kinds);
         }
 
         private int keptCount() {
@@ -748,19 +748,16 @@ public final class TwoWires {
             return asked != null && asked.on ? number : NONE;
         }
 
+        /** The listeners behind the first listenerCount ones are still as they were made. */
         private int placeListener(int address, int hold) {
             int number = listenerCount;
-            listenerCount++;
-            Listener placed = listenerAt(number);
+            Listener placed = number >= 0 && number < listeners.length ? listeners[number] : null;
             if (placed == null) {
-                listenerCount = number;
                 return NONE;
             }
-            placed.forget();
             placed.address = address;
             placed.hold = hold;
-            placed.on = true;
-            placed.heldSlots = 0;
+            listenerCount++;
             return number;
         }
 

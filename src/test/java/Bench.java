@@ -80,6 +80,23 @@ final class Bench {
         return out.toString();
     }
 
+    /** All that the calls of the section values tell. */
+    static String all(TwoWires x) {
+        StringBuilder out = new StringBuilder(values(x));
+        for (int c = 0; c < x.value(1); c++) {
+            out.append('\n').append(caller(x, c));
+            for (int place = 0; place < x.caller(c, 0); place++) {
+                out.append('\n').append(message(x, c, place));
+            }
+        }
+        for (int n = 0; n < x.value(2); n++) {
+            out.append('\n').append(listener(x, n)).append('\n').append(memory(x, n));
+        }
+        int kept = Math.min(64, x.value(0));
+        out.append('\n').append(levels(x, kept)).append('\n').append(contenders(x, kept));
+        return out.append('\n').append(kinds(x, kept)).toString();
+    }
+
     /** Undoes until nothing is saved; answers how many states there were. */
     static int savedStates(TwoWires x) {
         int count = 0;

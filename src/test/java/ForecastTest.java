@@ -114,6 +114,9 @@ public final class ForecastTest {
         }
         due.is("P21 none", x.delivers(0), 0);
         x.addListener(6, 0);
+        x.read(1, 6, 1);
+        due.is("P21 one", x.delivers(1), 1);
+        x.cancel(1);
         x.setLimit(2);
         x.write(0, 6, 1, 0);
         x.write(0, 6, 1, 0);

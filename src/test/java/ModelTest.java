@@ -75,8 +75,14 @@ public final class ModelTest {
             case 14: case 15: case 16: case 17: case 18: pass(); break;
             case 19: same("finish()", x::finish, m::finish); break;
             case 20: case 21: text(); break;
-            case 22: same("undo()", x::undo, m::undo); break;
+            case 22: undo(); break;
             default: changeSeldom(); break;
+        }
+    }
+
+    private void undo() {
+        for (int times = 1 + pick(4); times > 0; times--) {
+            same("undo()", x::undo, m::undo);
         }
     }
 

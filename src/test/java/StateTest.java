@@ -7,6 +7,8 @@ public final class StateTest {
         undoableCalls();
         atMostFour();
         undoDuringTransfer();
+        undoOfOverwrittenMemory();
+        undoBringsBackAll();
         refusedCallsSaveNothing();
         digestOfNew();
         digestOfMuch();
@@ -88,6 +90,53 @@ public final class StateTest {
         due.is("P26 back in the middle", x.digest(), digest);
         due.is("P26 the same slots", x.finish(), rest);
         due.is("P26 the same end", x.digest(), finished);
+    }
+
+    private static void undoOfOverwrittenMemory() {
+        TwoWires x = new TwoWires();
+        x.addListener(5, 0);
+        Bench.carryOut(x, "w0:5=1,2,3;s100;");
+        x.empty(0);
+        Bench.carryOut(x, "w0:5=7,8,9;s100;");
+        x.undo();
+        x.undo();
+        due.holds("P26 the first bytes are back", Bench.memory(x, 0).equals("1 2 3"));
+        x.begin(1);
+        x.addListener(6, 0);
+        Bench.carryOut(x, "w0:6=7,8,9,10;s100;");
+        x.undo();
+        x.undo();
+        x.undo();
+        due.holds("P26 they are back behind begin()", Bench.memory(x, 0).equals("1 2 3"));
+    }
+
+    /** All that the face tells, at each slot of some transfers, is the same before a call and behind its undo. */
+    private static void undoBringsBackAll() {
+        TwoWires x = new TwoWires();
+        x.begin(3);
+        x.addListener(5, 2);
+        x.addListener(4, 0);
+        Bench.carryOut(x, "w0:5=1,2,3;r0:5*2;w1:5=1,2,4;r2:5*3;w2:6=0;r1:4*1;");
+        x.setLimit(2);
+        for (int slot = 0; slot < 150; slot++) {
+            String before = Bench.all(x);
+            int rest = x.slotsToFinish();
+            due.is("P26 finish()", x.finish(), rest);
+            String end = Bench.all(x);
+            x.undo();
+            due.holds("P26 all is back at slot " + slot + " behind finish()", Bench.all(x).equals(before));
+            x.begin(1);
+            x.addListener(5, 1);
+            Bench.carryOut(x, "r0:5*4;w0:5=9,9,9,9;s10;w0:5=8;w0:5=7;s99;");
+            x.undo();
+            x.undo();
+            x.undo();
+            due.holds("P26 all is back at slot " + slot + " behind begin()", Bench.all(x).equals(before));
+            x.finish();
+            due.holds("P26 it goes on alike from slot " + slot, Bench.all(x).equals(end));
+            x.undo();
+            x.pass(1);
+        }
     }
 
     private static void refusedCallsSaveNothing() {

@@ -9,6 +9,7 @@ public final class TextTest {
         syntaxErrors();
         numbersOutOfRange();
         longTexts();
+        textAfterText();
         syntaxErrorChangesNothing();
         ordersAreCarriedOut();
         ordersThatThrow();
@@ -149,6 +150,19 @@ public final class TextTest {
         text(orders.toString(), 33);
         error(orders + "s", 100);
         error(orders + ";", 99);
+    }
+
+    private static void textAfterText() {
+        TwoWires x = new TwoWires();
+        due.is("P25 an error", Bench.carryOut(x, "s1;w0:12;"), -18);
+        due.is("P25 a text behind an error", Bench.carryOut(x, "s1;s2;"), 2);
+        due.is("P25 a shorter text", Bench.carryOut(x, "s1"), -12);
+        due.is("P25 one that goes on", x.append(';'), 3);
+        due.is("P25 carryOut()", x.carryOut(), 1);
+        due.is("P25 an error again", Bench.carryOut(x, "w"), -11);
+        x.clearText();
+        due.is("P25 no text behind an error", x.carryOut(), 0);
+        due.is("P25 slots", x.value(0), 4);
     }
 
     private static void syntaxErrorChangesNothing() {

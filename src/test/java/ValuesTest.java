@@ -56,6 +56,12 @@ public final class ValuesTest {
         x.pass(11);
         due.is("P13 losses", x.message(0, 0, 3), 1);
         x.pass(11);
+        x.cancel(0);
+        x.read(0, 8, 4);
+        for (int place = 1; place < 4; place++) {
+            x.read(0, 8, 4);
+            due.is("P13 a new message has no losses", x.message(0, place, 3), 0);
+        }
         due.holds("P13 the second one moves up", Bench.message(x, 0, 0).equals("8 1 4 0 -1 -1 -1 -1"));
     }
 
