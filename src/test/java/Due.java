@@ -1,3 +1,6 @@
+import java.util.function.Consumer;
+import java.util.function.Supplier;
+
 /** Counts the answers of one test that are not the ones that are due. */
 final class Due {
     interface Call {
@@ -5,11 +8,17 @@ final class Due {
     }
 
     private final String test;
+    private String part = "";
     private int wrong = 0;
     private int asked = 0;
 
     Due(String test) {
         this.test = test;
+    }
+
+    /** What the next answers belong to; it is told with each that is wrong. */
+    void begins(String part) {
+        this.part = part + ": ";
     }
 
     void is(String call, long got, long want) {
@@ -33,18 +42,47 @@ final class Due {
         }
     }
 
+    void is(String what, String got, String want) {
+        asked++;
+        if (!got.equals(want)) {
+            tell(what + " is " + got + ", due is " + want);
+        }
+    }
+
     /** The call throws this exception and no class below it, by a throw of the program's own, and changes nothing. */
     void refuses(String call, Class<? extends RuntimeException> want, TwoWires x, Call made) {
+        long digest = x.digest();
+        String all = Bench.all(x);
+        throwsIt(call, want, made);
+        if (x.digest() != digest || !Bench.all(x).equals(all)) {
+            tell(call + " changed something although it threw");
+        }
+    }
+
+    /**
+     * The same of a call on an object that is made anew for it: it is compared with a like one that was not called,
+     * in what is and comes, and in what undo() brings back and the text says. These use an object up.
+     */
+    void refuses(String call, Class<? extends RuntimeException> want, Supplier<TwoWires> like, Consumer<TwoWires> made) {
+        TwoWires first = like.get();
+        throwsIt(call, want, () -> made.accept(first));
+        TwoWires second = like.get();
+        thrownBy(() -> made.accept(second));
+        if (!Bench.ahead(first).equals(Bench.ahead(like.get()))) {
+            tell(call + " changed something although it threw");
+        }
+        if (!Bench.behind(second).equals(Bench.behind(like.get()))) {
+            tell(call + " changed a saved state or the text although it threw");
+        }
+    }
+
+    private void throwsIt(String call, Class<? extends RuntimeException> want, Call made) {
         asked++;
-        long before = x.digest();
         RuntimeException got = thrownBy(made);
         if (got == null || got.getClass() != want) {
             tell(call + " threw " + got + ", due is " + want.getName());
         } else if (!thrownByProgram(got)) {
             tell(call + " let the machine throw " + got);
-        }
-        if (x.digest() != before) {
-            tell(call + " changed something although it threw");
         }
     }
 
@@ -68,7 +106,7 @@ final class Due {
     void tell(String what) {
         wrong++;
         if (wrong <= 40) {
-            System.out.println(test + ": " + what);
+            System.out.println(test + ": " + part + what);
         }
     }
 

@@ -31,18 +31,13 @@ public final class StateTest {
     }
 
     private static void saves(String name, TwoWires x, Due.Call made) {
-        int before = savedOf(x);
+        int before = Bench.savedOf(x, 3);
         long digest = x.digest();
         made.make();
-        due.is("P26 saved states behind " + name, savedOf(x), before + 1);
+        due.is("P26 saved states behind " + name, Bench.savedOf(x, 3), before + 1);
         due.is("P26 undo() of " + name, x.undo(), before);
         due.is("P26 digest behind undo() of " + name, x.digest(), digest);
         made.make();
-    }
-
-    /** The number of saved states is the last value of the digest. */
-    private static int savedOf(TwoWires x) {
-        return (int) (x.digest() - digestByWords(x, 3, 0));
     }
 
     private static void undoableCalls() {
@@ -50,7 +45,7 @@ public final class StateTest {
         saves("addListener", x, () -> x.addListener(1, 1));
         saves("turn", x, () -> x.turn(0, false));
         saves("empty", x, () -> x.empty(0));
-        due.is("P26 three", savedOf(x), 3);
+        due.is("P26 three", Bench.savedOf(x, 3), 3);
         TwoWires y = ready();
         saves("setLimit", y, () -> y.setLimit(4));
         saves("write", y, () -> y.write(0, 1, 1, 1));
@@ -174,42 +169,12 @@ public final class StateTest {
         x.write(1, 9, 1, 0);
         Bench.type(x, "s22;s");
         for (int i = 0; i < 12; i++) {
-            due.is("P27 digest()", x.digest(), digestByWords(x, 5, 4));
-            due.is("P27 digest() again", x.digest(), digestByWords(x, 5, 4));
+            due.is("P27 digest()", x.digest(), Bench.digestByWords(x, 5, 4));
+            due.is("P27 digest() again", x.digest(), Bench.digestByWords(x, 5, 4));
             x.pass(13);
         }
         x.undo();
         x.clearText();
-        due.is("P27 digest() with three states", x.digest(), digestByWords(x, 0, 3));
-    }
-
-    /** What the document says of the digest, told by the other calls; the text and the states are known to the test. */
-    private static long digestByWords(TwoWires x, int textLength, int saved) {
-        long h = 31 * 3803L + textLength;
-        for (int what = 0; what <= 9; what++) {
-            h = 31 * h + x.value(what);
-        }
-        for (int c = 0; c < x.value(1); c++) {
-            for (int what = 0; what <= 8; what++) {
-                h = 31 * h + x.caller(c, what);
-            }
-            for (int place = 0; place < x.caller(c, 0); place++) {
-                for (int what = 0; what <= 7; what++) {
-                    h = 31 * h + x.message(c, place, what);
-                }
-            }
-        }
-        for (int n = 0; n < x.value(2); n++) {
-            for (int what = 0; what <= 5; what++) {
-                h = 31 * h + x.listener(n, what);
-            }
-            for (int place = 0; place < x.listener(n, 2); place++) {
-                h = 31 * h + x.memory(n, place);
-            }
-        }
-        for (int back = 0; back < Math.min(64, x.value(0)); back++) {
-            h = 31 * h + x.log(back, 0);
-        }
-        return 31 * (31 * h + x.slotsToFinish()) + saved;
+        due.is("P27 digest() with three states", x.digest(), Bench.digestByWords(x, 0, 3));
     }
 }
