@@ -1,13 +1,18 @@
+import java.io.IOException;
 import java.lang.reflect.Constructor;
 import java.lang.reflect.Field;
 import java.lang.reflect.Method;
 import java.lang.reflect.Modifier;
+import java.nio.file.Files;
+import java.nio.file.Path;
 import java.util.ArrayList;
 import java.util.Arrays;
 import java.util.List;
 import java.util.TreeSet;
+import java.util.regex.Matcher;
+import java.util.regex.Pattern;
 
-/** The public face, and nothing beside it. */
+/** The public face as the document shows it, and nothing beside it. */
 public final class FaceTest {
     private static final String[] METHODS = {
         "int begin(int) IllegalArgumentException",
@@ -38,13 +43,25 @@ public final class FaceTest {
         "long digest()",
     };
 
-    public static void main(String[] args) {
+    private static final Path DOCUMENT = Path.of("..", "shared", "DOC.md");
+    private static final Path PROGRAM = Path.of("src", "main", "java", "TwoWires.java");
+    /** "Ahead of the calls `append`, `clearText`, `carryOut` the interface says: ---- text." */
+    private static final Pattern GROUP = Pattern.compile("Ahead of the calls (.*) the interface says: (---- .*)\\.");
+    private static final Pattern MEMBER = Pattern.compile("    public (?!(?:static )?class )([^({;]*(?:\\([^)]*\\)[^{;]*)?)[{;]");
+    private static final Pattern CALLED = Pattern.compile("(\\w+)\\(");
+
+    public static void main(String[] args) throws IOException {
         Due due = new Due("FaceTest");
         due.is("NONE", TwoWires.NONE, -1);
-        due.holds("the class is public and final", Modifier.isPublic(TwoWires.class.getModifiers())
-                && Modifier.isFinal(TwoWires.class.getModifiers()));
+        due.is("the modifiers of the class", Modifier.toString(TwoWires.class.getModifiers()), "public final");
+        due.holds("that the class is one of its own", TwoWires.class.getSuperclass() == Object.class
+                && TwoWires.class.getInterfaces().length == 0 && TwoWires.class.getPackageName().isEmpty());
         methods(due);
         fieldsAndConstructors(due);
+        String document = Files.readString(DOCUMENT);
+        String program = Files.readString(PROGRAM);
+        due.is("the face in the source", members(program), members(faceIn(document)));
+        groups(due, document, program);
         for (Class<?> inside : TwoWires.class.getDeclaredClasses()) {
             due.holds(inside + " is static and not public", Modifier.isStatic(inside.getModifiers())
                     && !Modifier.isPublic(inside.getModifiers()) && !Modifier.isProtected(inside.getModifiers()));
@@ -60,6 +77,7 @@ public final class FaceTest {
             if (Modifier.isPrivate(method.getModifiers())) {
                 closed.add(method.getName());
             } else {
+                due.is("the modifiers of " + method.getName(), Modifier.toString(method.getModifiers()), "public");
                 open.add(signature(method));
                 names.add(method.getName());
             }
@@ -93,11 +111,58 @@ public final class FaceTest {
     private static void fieldsAndConstructors(Due due) {
         for (Field field : TwoWires.class.getDeclaredFields()) {
             boolean closed = Modifier.isPrivate(field.getModifiers());
-            due.holds("that the field " + field.getName() + " is private or NONE", closed || field.getName().equals("NONE"));
+            due.holds("that the field " + field.getName() + " is private or NONE", closed != field.getName().equals("NONE"));
+            if (!closed) {
+                due.is("the modifiers of NONE", Modifier.toString(field.getModifiers()), "public static final");
+                due.is("the type of NONE", field.getType().getName(), "int");
+            }
         }
         Constructor<?>[] constructors = TwoWires.class.getDeclaredConstructors();
         due.is("the constructors", constructors.length, 1);
         due.holds("that the constructor is public and has no parameters", Modifier.isPublic(constructors[0].getModifiers())
                 && constructors[0].getParameterCount() == 0);
+        due.is("the exceptions of the constructor", constructors[0].getExceptionTypes().length, 0);
+    }
+
+    private static String faceIn(String document) {
+        int from = document.indexOf("public final class TwoWires {");
+        int to = document.indexOf("```", from);
+        return from < 0 || to < 0 ? "" : document.substring(from, to);
+    }
+
+    /** The heads of the public members of the class, in their order, each in a line. */
+    private static String members(String text) {
+        StringBuilder out = new StringBuilder();
+        Matcher member = MEMBER.matcher(text);
+        while (member.find()) {
+            out.append(member.group(1).trim().replaceAll("\\s+", " ")).append('\n');
+        }
+        return out.toString();
+    }
+
+    /** Each call of a group stands in the source behind what the interface says ahead of the group, and no other does. */
+    private static void groups(Due due, String document, String program) {
+        StringBuilder want = new StringBuilder();
+        Matcher group = GROUP.matcher(document);
+        while (group.find()) {
+            want.append(group.group(2)).append(": ").append(group.group(1).replaceAll("[`,]", "")).append('\n');
+        }
+        StringBuilder got = new StringBuilder();
+        for (String part : program.split("\n    // (?=---- )")) {
+            if (part.startsWith("---- ")) {
+                got.append(part, 0, part.indexOf('\n')).append(':').append(callsIn(part)).append('\n');
+            }
+        }
+        due.holds("that the document tells groups of calls", want.length() > 0);
+        due.is("the groups in the source", got.toString(), want.toString());
+    }
+
+    private static String callsIn(String part) {
+        StringBuilder out = new StringBuilder();
+        Matcher called = CALLED.matcher(members(part));
+        while (called.find()) {
+            out.append(' ').append(called.group(1));
+        }
+        return out.toString();
     }
 }

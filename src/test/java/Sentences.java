@@ -12,7 +12,7 @@ import java.util.Map;
  */
 final class Sentences {
     private static final Path DOCUMENT = Path.of("..", "shared", "DOC.md");
-    /** Such a line is about comments in the interface, of which no call tells. */
+    /** Such a line is about comments in the interface: FaceTest's matter. */
     private static final String COMMENT_LINE = "Ahead of the calls ";
 
     /** The words of a section, and which of its signs are quoted. */
